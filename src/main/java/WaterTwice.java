@@ -38,7 +38,7 @@ public final class WaterTwice {
         if (!within(out, in + 1, MOST_OUT)) {
             return BAD;
         }
-        return steps.isFull() ? FULL : steps.append(load, in, out);
+        return steps.append(load, in, out);
     }
 
     public int change(int step, int what, int v) {
@@ -169,7 +169,7 @@ public final class WaterTwice {
         if (sign != 1 && sign != -1) {
             return BAD;
         }
-        return meters.isFull() ? FULL : meters.append(sign);
+        return meters.append(sign);
     }
 
     public int read(int meter, int v) {
@@ -311,12 +311,11 @@ public final class WaterTwice {
             return step >= 0 && step < size;
         }
 
-        boolean isFull() {
-            return size >= MOST_STEPS;
-        }
-
         int append(int newLoad, int newIn, int newOut) {
             int step = size;
+            if (step >= MOST_STEPS) {
+                return FULL;
+            }
             load[step] = newLoad;
             in[step] = newIn;
             out[step] = newOut;
@@ -667,12 +666,11 @@ public final class WaterTwice {
             return meter >= 0 && meter < size;
         }
 
-        boolean isFull() {
-            return size >= MOST;
-        }
-
         int append(int newSign) {
             int meter = size;
+            if (meter >= MOST) {
+                return FULL;
+            }
             sign[meter] = newSign;
             reading[meter] = NONE;
             size++;

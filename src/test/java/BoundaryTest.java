@@ -426,6 +426,19 @@ public final class BoundaryTest {
             leastFresh(x, 301, 300, 300);
             x.change(2, 0, 99);
             leastFresh(x, 1, 1, 100);
+            sentence = "7: the greatest, by less than a whole ton";
+            WaterTwice y = new WaterTwice();
+            y.step(7, 1, 2);
+            y.step(4, 2, 3);
+            leastFresh(y, 11, 3, 3);
+            y.change(1, 0, 3);
+            leastFresh(y, 7, 2, 2);
+            WaterTwice z = new WaterTwice();
+            z.step(4, 2, 3);
+            z.step(7, 1, 2);
+            leastFresh(z, 11, 3, 3);
+            z.change(0, 0, 3);
+            leastFresh(z, 7, 2, 2);
         }
 
         private static void greatest() {
@@ -814,6 +827,7 @@ public final class BoundaryTest {
             state();
             noState();
             leastForm();
+            sumOverSteps();
             widest();
         }
 
@@ -871,6 +885,25 @@ public final class BoundaryTest {
                 x.fresh(0, d[0]);
                 due("upper of 6 by " + d[0], x.at(0, 0), d[1]);
                 due("lower of 6 by " + d[0], x.at(0, 1), d[2]);
+            }
+        }
+
+        private static void sumOverSteps() {
+            sentence = "12: the sum over STEPS r, of lower parts that share a divisor or none";
+            int[][] waters = {{4, 6}, {6, 4}, {4, 7}, {6, 6}, {1, 4}, {10, 4}, {99, 100}};
+            for (int[] d : waters) {
+                WaterTwice x = steps(3);
+                x.fresh(0, d[0]);
+                x.fresh(1, d[1]);
+                x.fresh(2, 2);
+                x.pipe(0, 2, 1);
+                x.pipe(1, 2, 1);
+                // 1 by the one, 1 by the other, and its own LOAD of 1, in 4 tons.
+                BigInteger lower = BigInteger.valueOf(4L * d[0] * d[1]);
+                BigInteger upper = BigInteger.valueOf((long) d[0] + d[1] + (long) d[0] * d[1]);
+                BigInteger divisor = upper.gcd(lower);
+                due("at(2, 0)", x.at(2, 0), upper.divide(divisor).longValueExact());
+                due("at(2, 1)", x.at(2, 1), lower.divide(divisor).longValueExact());
             }
         }
 
@@ -1001,8 +1034,20 @@ public final class BoundaryTest {
             due("the other of it", x.hit(0, 0, 3), NONE);
             x.pipe(2, 4, 1);
             due("behind that ring", x.hit(0, 0, 4), NONE);
+            due("that ring, hit by itself", x.hit(3, 5, 2), 5);
+            due("what was asked ahead is not left over", x.hit(0, 0, 2), NONE);
+            due("nor for the other of it", x.hit(0, 0, 3), NONE);
             x.pipe(0, 2, 1);
             due("the ring is hit", x.hit(0, 0, 4), 1);
+            for (int i = 0; i + 1 < MOST_STEPS; i++) {
+                WaterTwice y = steps(5);
+                y.pipe(i, i + 1, 1);
+                y.pipe(i + 1, i, 1);
+                int apart = (i + 2) % MOST_STEPS;
+                due("a ring of two, hit by itself", y.hit(i, 7, i + 1), 8);
+                due("then not hit: the one", y.hit(apart, 7, i), NONE);
+                due("then not hit: the other", y.hit(apart, 7, i + 1), NONE);
+            }
         }
 
         private static void anyDesign() {
