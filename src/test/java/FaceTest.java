@@ -28,7 +28,8 @@ public final class FaceTest {
     public static void main(String[] args) throws IOException {
         face();
         classesInside();
-        source(Files.readString(Path.of(System.getProperty("watertwice.source", "src/main/java/WaterTwice.java"))));
+        Path root = Path.of(System.getProperty("watertwice.root", "."));
+        source(Files.readString(root.resolve("src/main/java/WaterTwice.java")));
         System.out.println(wrong == 0 ? "the face is as told" : wrong + " faults of the face");
         if (wrong != 0) {
             System.exit(1);
@@ -80,19 +81,24 @@ public final class FaceTest {
     private static void classesInside() {
         Class<?>[] inside = WaterTwice.class.getDeclaredClasses();
         check(inside.length < 12, "at most twelve classes");
+        fewFields(WaterTwice.class);
         for (Class<?> c : inside) {
             int m = c.getModifiers();
             check(Modifier.isStatic(m) && !Modifier.isPublic(m) && !Modifier.isProtected(m), c + " is static, and not public");
-            int fields = 0;
-            for (Field f : c.getDeclaredFields()) {
-                if (Modifier.isStatic(f.getModifiers())) {
-                    check(Modifier.isFinal(f.getModifiers()), f + " is final");
-                } else {
-                    fields++;
-                }
-            }
-            check(fields <= 20, c + " has at most twenty fields");
+            fewFields(c);
         }
+    }
+
+    private static void fewFields(Class<?> c) {
+        int fields = 0;
+        for (Field f : c.getDeclaredFields()) {
+            if (Modifier.isStatic(f.getModifiers())) {
+                check(Modifier.isFinal(f.getModifiers()), f + " is final");
+            } else {
+                fields++;
+            }
+        }
+        check(fields <= 20, c + " has at most twenty fields");
     }
 
     private static void source(String text) {
@@ -110,5 +116,30 @@ public final class FaceTest {
             check(known.contains(library.group(1)), "library: " + library.group());
         }
         check(!code.contains("while"), "each loop is a 'for' with a counter");
+        shortMethods(code);
+        madeOnlyWithTheObject(code);
+    }
+
+    /** Rule 11. */
+    private static void shortMethods(String code) {
+        Matcher head = Pattern.compile("(?m)^( +)[\\w\\[\\] ]*\\b(\\w+)\\(([^()]*)\\) \\{$").matcher(code);
+        int methods = 0;
+        while (head.find()) {
+            int end = code.indexOf("\n" + head.group(1) + "}", head.end());
+            check(code.substring(head.end(), end).lines().count() <= 60, head.group(2) + " has at most sixty lines");
+            check(head.group(3).split(",").length <= 7, head.group(2) + " takes at most seven parameters");
+            methods++;
+        }
+        check(methods > METHODS.length, "methods are found in the code: " + methods);
+    }
+
+    /** All calls of a run share one room, so a call is to make no object: fields and constructors do. */
+    private static void madeOnlyWithTheObject(String code) {
+        String rest = code.replaceAll("(?m)^ +private final [^\n]* = new [^\n]*;$", "")
+            .replaceAll("(?ms)^( +)(?:public )?(?:WaterTwice|Limits|Design)\\([^()]*\\) \\{$.*?^\\1\\}$", "");
+        Matcher made = Pattern.compile("\\bnew \\w+").matcher(rest);
+        while (made.find()) {
+            check(false, "made with the object: " + made.group());
+        }
     }
 }

@@ -110,8 +110,11 @@ public final class ModelTest {
         }
     }
 
-    /** Draws arguments: mostly as told, at times at an edge or just past it. */
+    /** Draws arguments: mostly as told, at times at an edge, just past it, or far from it. */
     private static final class Draw {
+        private static final int[] WILD = {Integer.MIN_VALUE, Integer.MIN_VALUE + 1, -9, -2, 1 << 16, 1 << 30,
+            Integer.MAX_VALUE - 1, Integer.MAX_VALUE};
+
         static int[] arguments(Random r, int name, boolean small, int steps) {
             int step = Math.max(0, steps - 1);
             int pipe = small ? 4 : 100;
@@ -153,11 +156,13 @@ public final class ModelTest {
         }
 
         private static int within(Random r, int low, int high) {
-            switch (r.nextInt(60)) {
+            switch (r.nextInt(80)) {
                 case 0: return low - 1;
                 case 1: return high + 1;
                 case 2: return low;
                 case 3: return high;
+                case 4: return WILD[r.nextInt(WILD.length)];
+                case 5: return r.nextInt();
                 default: return low + r.nextInt(Math.max(1, high - low + 1));
             }
         }
