@@ -295,7 +295,7 @@ public final class WaterTwice {
                 big = small;
                 small = rest;
             }
-            return Math.max(big, 1);
+            return big > 0 ? big : 1;
         }
     }
 
